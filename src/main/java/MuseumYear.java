@@ -793,7 +793,7 @@ public final class MuseumYear {
         private int leavesAt(int t, int slot, int light) {
             int next = slot + told.cases;
             int sum = light;
-            while (next < slots) {
+            for (int seasons = 0; seasons < SEASONS_AT_MOST && next < slots; seasons++) {
                 sum += lightIn[next];
                 if ((open[next] >> t & 1) == 0 || sum > cap[t]) {
                     return next;

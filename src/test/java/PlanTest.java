@@ -129,6 +129,7 @@ public final class PlanTest {
         year.rules(1);
         CHECK.plan("rules", year, "0");
         year.rules(1);
+        CHECK.plan("rules", year, "1");
         year.back(0);
         CHECK.plan("back", year, "0");
         Check.type(year, "c1;l5;t4;t9;");
@@ -259,6 +260,11 @@ public final class PlanTest {
         CHECK.due("three changes more", year.dearth(0), 3);
         year = Check.told("c1;l10;t10;t10;");
         CHECK.due("another does as well", year.dearth(0), 0);
+        year = Check.told("c1;l10 10 10;t20;t10;t10;");
+        CHECK.due("one change there is", year.cost(0), 1);
+        CHECK.due("two there would be", Check.told("c1;l10 10 10;t20;t10;t10;t10;").dearth(0), 1);
+        CHECK.due("one yet", year.dearth(2), 0);
+        CHECK.due("two things for three seasons", year.dearth(0), NONE);
         CHECK.due("no thing left", Check.told("c1;l10;t10;").dearth(0), NONE);
         CHECK.due("a case stays empty", Check.told("l10;t10;t10;").dearth(1), NONE);
     }

@@ -104,9 +104,16 @@ public final class ToldTest {
         items("t1;t1;x0 1;a0 0 3;a0 1 1;a1 3 3;", 6);
         items("t1;t1;t1;x0 1;x1 2;x2 0;", 6);
         items("t1;a0 0 0;t1;x1 0;t1;", 5);
+        items(" ".repeat(100), 0);
+        items("t5" + " ".repeat(97) + ";", 1);
     }
 
     private static void houseFindsFaults() {
+        fault("t5" + " ".repeat(98), 100);
+        fault(" ".repeat(99) + "t", 100);
+        fault(" ".repeat(98) + "t5", 100);
+        fault("t" + "9".repeat(99), 1);
+        fault(" ".repeat(99) + ";", 99);
         fault("c", 1);
         fault("c  ", 3);
         fault("c1", 2);
