@@ -1,18 +1,47 @@
 /** Counts the answers that are not due; each test of the project ends through it. */
 final class Check {
+    private final boolean isTold;
     private int asked = 0;
     private int wrong = 0;
 
-    void due(String call, long got, long want) {
+    Check() {
+        this(true);
+    }
+
+    /** Where a run is gone through again, its faults have been told already. */
+    Check(boolean isTold) {
+        this.isTold = isTold;
+    }
+
+    private void hold(boolean so, String otherwise) {
         asked++;
-        if (got != want) {
+        if (!so) {
             wrong++;
-            System.out.println(call + " answered " + got + ", due is " + want);
+            if (isTold) {
+                System.out.println(otherwise);
+            }
         }
+    }
+
+    void due(String call, long got, long want) {
+        hold(got == want, call + " answered " + got + ", due is " + want);
     }
 
     void holds(String what, boolean so) {
         due(what, so ? 1 : 0, 1);
+    }
+
+    void same(String what, String got, String want) {
+        int alike = 0;
+        while (alike < Math.min(got.length(), want.length()) && got.charAt(alike) == want.charAt(alike)) {
+            alike++;
+        }
+        int from = Math.max(0, alike - 40);
+        hold(got.equals(want), what + ": got \"" + part(got, from) + "\", due is \"" + part(want, from) + "\"");
+    }
+
+    private static String part(String text, int from) {
+        return text.substring(from, Math.min(text.length(), from + 80));
     }
 
     void end() {
@@ -57,11 +86,6 @@ final class Check {
     }
 
     void plan(String what, MuseumYear year, String want) {
-        String got = planOf(year);
-        asked++;
-        if (!got.equals(want)) {
-            wrong++;
-            System.out.println(what + ": the plan is " + got + ", due is " + want);
-        }
+        same(what + ": the plan", planOf(year), want);
     }
 }
