@@ -4,8 +4,10 @@ import java.nio.file.Files;
 import java.nio.file.Path;
 import java.util.ArrayList;
 import java.util.HashMap;
+import java.util.LinkedHashSet;
 import java.util.List;
 import java.util.Map;
+import java.util.Set;
 import java.util.TreeSet;
 
 /**
@@ -40,7 +42,7 @@ final class Edges {
         "rules0 undo undo"};
 
     private final Check check = new Check();
-    private final TreeSet<String> names = new TreeSet<>();
+    private final Set<String> names = new LinkedHashSet<>();
     private final TreeSet<Integer> promises = new TreeSet<>();
     private final Map<String, List<String>> known = new HashMap<>();
     private final String document;
@@ -190,7 +192,9 @@ final class Edges {
         for (int promise = first; promise <= last; promise++) {
             check.holds("promise " + promise + " has a test", promises.contains(promise));
         }
-        System.out.println(names.size() + " sentences have a test");
+        for (String name : names) {
+            System.out.println("tested: " + name);
+        }
         check.end();
     }
 }
